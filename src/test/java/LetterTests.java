@@ -92,6 +92,11 @@ final class LetterTests {
         }
         Check.due("in the text", x.letter(T, 4), 4);
         Check.due("not in the text", x.letter(L, 4), 0);
+        Check.say(x, "to t");
+        Check.due("in a shorter text", x.letter(T, 4), 2);
+        Check.due("o in it", x.letter(O, 4), 1);
+        Check.say(x, "tt ".repeat(30));
+        Check.due("in thirty words", x.letter(T, 4), 60);
         Check.due("what 5", x.letter(O, 5), -1);
         Check.due("what -1", x.letter(O, -1), -1);
         Check.due("letter not told", x.letter(1, 0), -1);
@@ -256,11 +261,19 @@ final class LetterTests {
         Check.say(x, "aaaaaaaaa ".repeat(13));
         Check.due("width without rows", x.word(12, 1), 270);
         Check.due("row without rows", x.word(12, 2), -2);
+        Check.due("row of the first word without rows", x.word(0, 2), -2);
+        Check.due("place of the first word without rows", x.word(0, 3), -2);
         Check.due("place without rows", x.word(12, 3), -2);
         Check.due("invalid without rows", x.word(13, 2), -1);
         BoardLetters y = Check.loaded("board 40 30 lead 2 cap 10 gap 0 word 5 size 7;letter i wide 1 left 1 1 1 1 1 1 right 1 1 1 1 1 1;");
         Check.say(y, "iii");
         Check.due("1 at least", y.word(0, 1), 7);
+        y = Check.loaded("board 40 30 lead 2 cap 3 gap 0 word 5 size 7;letter i wide 1 left 9 9 9 9 9 9 right 9 9 9 9 9 9;");
+        Check.say(y, "iii");
+        for (int gap = 0; gap <= 3; gap++) {
+            y.setNumber(3, gap);
+            Check.due("1 at least for " + gap, y.word(0, 1), 7);
+        }
     }
 
     /** Promise 25. */

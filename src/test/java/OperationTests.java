@@ -11,6 +11,7 @@ final class OperationTests {
         undo();
         undoOfEachOperation();
         whatUndoLeaves();
+        rowsAfterEachOperation();
         Check.finish("OperationTests");
     }
 
@@ -134,11 +135,11 @@ final class OperationTests {
         Check.due("without rows", x.swap(0, 12), 0);
         BoardLetters y = Check.loaded("board 40 30 lead 2 cap 10 gap 3 word 5 size 1;"
                 + "letter b wide 6 left 1 1 1 1 1 1 right 1 1 1 1 1 1;letter c wide 6 left 1 1 1 1 1 1 right 1 1 1 1 1 1;");
-        Check.say(y, "bcb cc");
+        Check.say(y, "bcc cb");
         y.swap(1, 0);
-        Check.due("spelled", y.spelled(0, 0) * 100 + y.spelled(0, 1), 202);
+        Check.due("spelled", y.spelled(0, 0) * 100 + y.spelled(0, 1), 201);
         Check.due("end of it", y.spelled(0, 2), -2);
-        Check.due("spelled too", y.spelled(1, 0) * 10000 + y.spelled(1, 1) * 100 + y.spelled(1, 2), 10201);
+        Check.due("spelled too", y.spelled(1, 0) * 10000 + y.spelled(1, 1) * 100 + y.spelled(1, 2), 10202);
     }
 
     /** Promises 12 and 13. */
@@ -231,6 +232,47 @@ final class OperationTests {
         Check.due("SIZE", x.value(5), 1);
         Check.due("say undone", x.undo(), 0);
         Check.due("no words", x.value(11), 0);
+    }
+
+    /** Rows are asked for ahead of each operation and behind it. */
+    private static void rowsAfterEachOperation() {
+        BoardLetters x = new BoardLetters();
+        dueRows(x, 0, "");
+        Check.say(x, "aaa aaaaa a aaaaaaaaa");
+        // widths for GAP 3: 32, 54, 10, 98; 6 less than 100
+        dueRows(x, 3, "3");
+        x.setNumber(0, 98);
+        dueRows(x, 3, "2");
+        x.setNumber(0, 100);
+        x.correct(0, 0, 3);
+        // 38, 66, 10, 122
+        dueRows(x, 3, "31");
+        x.setBreak(1);
+        x.swap(2, 3);
+        dueRows(x, 4, "31");
+        x.setFill(true);
+        // 38 + 2 * 7 for CAP
+        dueRows(x, 4, "24");
+        x.undo();
+        dueRows(x, 4, "31");
+        x.undo();
+        dueRows(x, 3, "31");
+        x.keep(0);
+        Check.say(x, "a");
+        dueRows(x, 1, "45");
+        x.restore(0);
+        dueRows(x, 3, "31");
+        x.undo();
+        dueRows(x, 1, "45");
+    }
+
+    private static void dueRows(BoardLetters x, int rows, String start) {
+        StringBuilder first = new StringBuilder();
+        for (int i = 0; i < start.length(); i++) {
+            first.append((char) x.viewByte(i));
+        }
+        Check.dueText("start of the first row", first.toString(), start);
+        Check.due("rows", x.value(12), rows);
     }
 
     /** Section 5: calls that fail are no operations; undo() leaves the slots, the tape and the error position. */

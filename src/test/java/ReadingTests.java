@@ -10,6 +10,7 @@ final class ReadingTests {
         truncate();
         load();
         loadReplacesAll();
+        loadAfterOtherTexts();
         loadKeepsAllOnError();
         numbersInRange();
         numbersOutOfRange();
@@ -145,6 +146,28 @@ final class ReadingTests {
         Check.due("undo of one", x.undo(), 0);
     }
 
+    /** Promise 4: nothing of an earlier text, read or refused, is left. */
+    private static void loadAfterOtherTexts() {
+        BoardLetters x = new BoardLetters();
+        x.correct(0, 0, 5);
+        x.setBreak(1);
+        x.setFill(true);
+        Check.say(x, "a aa aaa");
+        Check.due("a row", x.value(12), 1);
+        Check.due("first text", Check.load(x, BOARD + A + T + "pair a a wider 1;pair a t wider 2;pair t a wider 3;pair t t wider 4;"), 2);
+        Check.due("no row", x.value(12), 0);
+        Check.due("no view", x.viewLength(), 0);
+        Check.due("BREAK", x.value(7), 0);
+        Check.due("FILL", x.value(8), 0);
+        Check.due("refused text", Check.load(x, BOARD + A + T + "pair a a wider 5;pair"), -1);
+        Check.due("next text", Check.load(x, BOARD + A + T), 2);
+        Check.due("pairs", x.value(10), 0);
+        Check.say(x, "tat");
+        Check.due("width", x.word(0, 1), 6 - 1 + 6 + 1 + 6);
+        Check.due("last text", Check.load(x, BOARD + T), 1);
+        Check.due("a", x.letter(0, 0), -1);
+    }
+
     /** Promise 4: on an error all but the tape and the error position stays. */
     private static void loadKeepsAllOnError() {
         BoardLetters x = new BoardLetters();
@@ -246,6 +269,11 @@ final class ReadingTests {
         stops("boar 40 30", 0);
         stops("board40 30x", 10);
         stops("Board 40 30", 0);
+        stops("hoard 40 30", 0);
+        stops("beard 40 30", 0);
+        stops("boxrd 40 30", 0);
+        stops("boaod 40 30", 0);
+        stops("boars 40 30", 0);
         stops("board\t40", 5);
         stops("board 40 -3", 9);
         stops("board 40 30 lead 2 cap 10 gap 3 word 5 size 1:", 45);
@@ -288,8 +316,15 @@ final class ReadingTests {
         stops(BOARD + "letter a wide 1 left 1 1 1 1 1 1 right 1 1 1 1 1 1 letter", b + 51);
         stops(BOARD + "letter a wide 1 left 1 1 1 1 1 1 right 1 1 1 1 1 1 ", b + 51);
         stops(BOARD + A + A, n + 7);
+        stops(BOARD + "letter", b + 6);
+        stops(BOARD + "letter a", b + 8);
+        stops(BOARD + A + "letter", n + 6);
+        stops(BOARD + A + "letter t", n + 8);
+        stops(BOARD + A + "letter t wide", n + 13);
         stops(BOARD + A + ";", n);
         stops(BOARD + A + "pair", n + 4);
+        stops(BOARD + A + "pair a a", n + 8);
+        stops(BOARD + A + "pair a a closer", n + 15);
         stops(BOARD + A + "pair b a closer 1;", n + 5);
         stops(BOARD + A + "pair a b closer 1;", n + 7);
         stops(BOARD + A + "pair aa closer 1;", n + 5);

@@ -16,6 +16,8 @@ final class RowTests {
         wordsInCheapRows();
         waysOfTheSameCost();
         atMostTwelveRows();
+        rowsAfterOtherTexts();
+        longWordsInRows();
         letterAt();
         place();
         placeAheadOfTheStart();
@@ -108,6 +110,8 @@ final class RowTests {
         dueRow(x, 0, 0, 2, 6, 9, 100, 0, 0, 12, 12);
         // 90 and 6 more for each more: 96 for 3
         dueRow(x, 1, 2, 2, 8, 3, 100, 0, 0, 14, 14);
+        x.setFill(false);
+        dueRow(x, 0, 0, 2, 6, 2, 70, 15, 30, 10, 10);
         x = plain(words(2, 2, 2));
         x.setFill(true);
         // 80 and 3 more for each more: 98 for 8
@@ -117,6 +121,9 @@ final class RowTests {
         dueRow(x, 0, 0, 3, 6, 9, 102, 0, 0, 10, 11);
         Check.due("second word", x.place(0, 2), 1000 + 27 + 11);
         Check.due("third word", x.place(0, 4), 1000 + 27 + 11 + 27 + 10);
+        x.setFill(false);
+        dueRow(x, 0, 0, 3, 6, 2, 80, 11, 22, 10, 10);
+        x.setFill(true);
         x.setNumber(5, 2);
         // 100 for gap 2 and two words, 4 more for each more
         dueRow(x, 0, 0, 2, 4, 2, 102, 0, 0, 22, 22);
@@ -131,6 +138,13 @@ final class RowTests {
         Check.due("second place", x.place(0, 1), 1000 + 10 + 21);
         Check.due("third place", x.place(0, 2), 1000 + 20 + 42);
         Check.due("fourth place", x.place(0, 3), 1000 + 30 + 62);
+        x = plain(words(10, 2, 2, 1, 12));
+        x.setFill(true);
+        x.setNumber(0, 105);
+        // 70 and 2 more for each more: 86 for CAP, and 19 for two spaces
+        dueRow(x, 1, 1, 3, 5, 10, 105, 0, 0, 19, 20);
+        Check.due("second of row 1", x.place(1, 2), 1000 + 28 + 20);
+        Check.due("third of row 1", x.place(1, 4), 1000 + 28 + 20 + 28 + 19);
         x = plain(words(3));
         x.setFill(true);
         // one word alone: CAP, and what it lacks stays
@@ -201,6 +215,61 @@ final class RowTests {
         x = plain(words(12, 12, 12, 12, 12, 12, 2, 1, 8, 6, 3, 1, 7, 1, 1, 8, 1));
         x.setBreak(1);
         dueWords(x, 1, 1, 1, 1, 1, 1, 2, 1, 2, 2, 2, 2);
+    }
+
+    private static void rowsAfterOtherTexts() {
+        BoardLetters x = plain(words(12, 12, 12, 12, 12, 12, 2, 1, 8, 6, 3, 1, 7, 1, 1, 8, 1));
+        x.setBreak(1);
+        Check.due("twelve rows", x.value(12), 12);
+        Check.say(x, words(9, 9, 9, 9, 9, 9, 9, 9, 9, 9, 9, 5, 4, 9));
+        dueWords(x);
+        Check.due("no cost", x.cost(), -2);
+        for (int count = 12; count > 0; count--) {
+            Check.say(x, words(9, 9, 9, 9, 9, 9, 9, 9, 9, 9, 9, 9).substring(0, 10 * count));
+            Check.due("rows", x.value(12), count);
+            Check.due("cost", x.cost(), 100 * (count - 1));
+            Check.due("least cost", x.leastCost(), 100 * (count - 1));
+        }
+        for (int count = 12; count > 0; count -= 3) {
+            Check.say(x, words(9, 9, 9, 9, 9, 9, 9, 9, 9, 9, 9, 9));
+            Check.due("least cost of twelve", x.leastCost(), 1100);
+            Check.say(x, words(9, 9, 9, 9, 9, 9, 9, 9, 9, 9, 9, 9).substring(0, 10 * count));
+            Check.due("least cost of " + count, x.leastCost(), 100 * (count - 1));
+        }
+        Check.say(x, words(4, 5, 1, 9));
+        dueWords(x, 1, 2, 1);
+        x.setNumber(0, 10);
+        dueWords(x, 1, 1, 1, 1);
+        Check.say(x, "");
+        dueWords(x);
+        // odd and even words behind twelve rows
+        Check.say(x, words(9, 9, 9, 9, 9, 9, 9, 9, 9, 9, 9, 9, 9, 9));
+        dueWords(x);
+        Check.due("no way", x.leastCost(), -2);
+        Check.say(x, words(9, 9, 9, 9, 9, 9, 9, 9, 9, 9, 9, 9, 9));
+        dueWords(x);
+        Check.due("no way", x.leastCost(), -2);
+    }
+
+    /** Thirty words of twelve letters, as many as there can be. */
+    private static void longWordsInRows() {
+        BoardLetters x = Check.loaded("board 9999 30 lead 2 cap 30 gap 30 word 99 size 1;"
+                + "letter m wide 60 left 0 0 0 0 0 0 right 0 0 0 0 0 0;pair m m wider 9;");
+        Check.say(x, "mmmmmmmmmmmm ".repeat(30));
+        // a word is 60 * 12 + 39 * 11 wide
+        int wide = 1149;
+        dueRow(x, 0, 0, 8, 96, 30, 8 * wide + 7 * 99, 57, 114, 99, 99);
+        dueRow(x, 3, 24, 6, 72, 30, 6 * wide + 5 * 99, 1305, 2610, 99, 99);
+        Check.due("last place", x.place(3, 71), 1000 + 1305 + 6 * wide + 5 * 99 - 60);
+        Check.due("its letter", x.letterAt(3, 71), 12);
+        Check.due("no gap behind it", x.gap(3, 71), -2);
+        Check.due("no white behind it", x.white(3, 71, 5), -2);
+        Check.due("no touch", x.touches(3), 0);
+        x.setFill(true);
+        x.setBreak(1);
+        Check.due("four rows", x.value(12), 4);
+        x.setNumber(5, 9);
+        Check.due("no rows", x.value(12), 0);
     }
 
     private static BoardLetters signs() {
@@ -328,9 +397,11 @@ final class RowTests {
         // 0 - 9 + 1, times 3
         Check.due("below 0", x.white(0, 0, 0), 1000 - 24);
         BoardLetters y = Check.loaded("board 40 30 lead 2 cap 10 gap 3 word 5 size 1;"
-                + "letter c wide 6 left open 1 1 1 1 1 right 1 1 1 1 1 1;");
+                + "letter c wide 6 left open 1 1 1 1 1 right 2 2 2 2 2 2;");
         Check.say(y, "cc");
         Check.due("open on the left of the next one", y.white(0, 0, 0), -2);
+        // 10 and 5 * (2 + d + 1) are 18 or more for -1
+        Check.due("right inset, distance and left inset", y.white(0, 0, 1), 1000 + 2 - 1 + 1);
         y.setFill(true);
         Check.due("for the gap of the row", y.white(0, 0, 1), 1010);
     }
@@ -348,6 +419,16 @@ final class RowTests {
         Check.due("1 is no touch", x.touches(1), 0);
         x.correct(19, 0, 1);
         Check.due("not for a band of 1", x.touches(2), 0);
+        for (int band = 0; band < 6; band++) {
+            String side = "9 9 9 9 9 9";
+            BoardLetters z = Check.loaded("board 40 30 lead 2 cap 10 gap 5 word 5 size 1;letter c wide 6 left "
+                    + side.substring(0, 2 * band) + "0" + side.substring(2 * band + 1)
+                    + " right 0 0 0 0 0 0;letter d wide 6 left 9 9 9 9 9 9 right 8 8 8 8 8 8;");
+            Check.say(z, "cc cd");
+            // 5 * (d + 9) is 30 or more for -3, which is too near in one band
+            Check.due("touch in band " + band, z.touches(0), 1);
+            Check.due("white there", z.white(0, 0, band), 997);
+        }
         BoardLetters y = Check.loaded("board 40 30 lead 2 cap 10 gap 3 word 5 size 1;"
                 + "letter c wide 6 left open open open open open open right 0 0 0 0 0 0;");
         Check.say(y, "ccc");
