@@ -335,7 +335,7 @@ final class FitEdgeTests {
             Check.due("the only one of 80", Given.broken(how, 8, 9, 9).bestSwap(), 2);
             Check.due("either one of 80", Given.broken(how, 8, 8, 9, 9).bestSwap(), 3);
             Check.due("into either place", Given.broken(how, 9, 9, 4, 10, 9).bestSwap(), dueOf(how, 100, 9, 9, 4, 10, 9));
-            // any row of 90 costs nothing in the place of the last one, which costs nothing in its own
+            // the last row costs nothing, so that any 90 is best there, and 100 in its place
             Check.due("any one of 90", Given.broken(how, 10, 9, 9, 9, 10).bestSwap(), 4 + 100);
         }
     }

@@ -19,31 +19,14 @@ final class FittingTests {
         Check.finish("FittingTests");
     }
 
-    /** INNER 100, and with GAP 2 a word of n letters a is 10 n wide and words are 10 apart. */
-    private static BoardLetters plain(int... lengths) {
-        BoardLetters x = new BoardLetters();
-        x.setNumber(3, 2);
-        x.setNumber(4, 10);
-        StringBuilder text = new StringBuilder();
-        for (int length : lengths) {
-            text.append("a".repeat(length)).append(' ');
-        }
-        Check.say(x, text.toString());
-        return x;
-    }
-
-    private static BoardLetters thirteenRows() {
-        return plain(9, 9, 9, 9, 9, 9, 9, 9, 9, 9, 9, 9, 9);
-    }
-
     /** Promise 36. */
     private static void fits() {
         Check.dueTruth("no words", new BoardLetters().fits(), true);
-        Check.dueTruth("one row", plain(5, 4).fits(), true);
-        Check.dueTruth("a word of 100", plain(10).fits(), true);
-        Check.dueTruth("a word of 110", plain(1, 11, 1).fits(), false);
-        Check.dueTruth("no rows", thirteenRows().fits(), false);
-        BoardLetters x = plain(10, 1);
+        Check.dueTruth("one row", Given.plain(5, 4).fits(), true);
+        Check.dueTruth("a word of 100", Given.plain(10).fits(), true);
+        Check.dueTruth("a word of 110", Given.plain(1, 11, 1).fits(), false);
+        Check.dueTruth("no rows", Given.thirteenRows().fits(), false);
+        BoardLetters x = Given.plain(10, 1);
         x.setFill(true);
         Check.dueTruth("also if FILL is on", x.fits(), true);
         x.setBreak(1);
@@ -56,14 +39,14 @@ final class FittingTests {
     }
 
     private static void fitsInHigh() {
-        BoardLetters x = plain(9, 9, 9);
+        BoardLetters x = Given.plain(9, 9, 9);
         x.setNumber(2, 5);
         // 3 * 6 + 2 * 5
         x.setNumber(1, 28);
         Check.dueTruth("as high as HIGH", x.fits(), true);
         x.setNumber(1, 27);
         Check.dueTruth("higher by 1", x.fits(), false);
-        x = plain(4, 5, 1, 9);
+        x = Given.plain(4, 5, 1, 9);
         x.setNumber(1, 22);
         Check.dueTruth("three rows", x.fits(), true);
         x.setNumber(5, 2);
@@ -73,17 +56,17 @@ final class FittingTests {
     /** Promise 37. */
     private static void bestSize() {
         Check.due("no words", new BoardLetters().bestSize(), 9);
-        Check.due("one letter", plain(1).bestSize(), 9);
+        Check.due("one letter", Given.plain(1).bestSize(), 9);
         // 20 times 5
-        Check.due("one word", plain(2).bestSize(), 5);
-        BoardLetters x = plain(2);
+        Check.due("one word", Given.plain(2).bestSize(), 5);
+        BoardLetters x = Given.plain(2);
         x.setNumber(1, 29);
         Check.due("HIGH 29", x.bestSize(), 4);
         x.setNumber(1, 5);
         Check.due("HIGH 5", x.bestSize(), -2);
-        Check.due("too wide", plain(11).bestSize(), -2);
-        Check.due("no rows", thirteenRows().bestSize(), -2);
-        x = plain(2, 2, 2);
+        Check.due("too wide", Given.plain(11).bestSize(), -2);
+        Check.due("no rows", Given.thirteenRows().bestSize(), -2);
+        x = Given.plain(2, 2, 2);
         // by SIZE 2 100 and 40 in two rows of 12, by 5 three rows of 30 and 4, by 4 three of 24
         Check.due("more rows", x.bestSize(), 5);
         x.setNumber(1, 93);
@@ -98,18 +81,18 @@ final class FittingTests {
     /** Promise 38: a word of n letters is 10 n + (n - 1) (T - 2) wide for T above 0. */
     private static void bestGap() {
         Check.due("no words", new BoardLetters().bestGap(), 10);
-        Check.due("one letter", plain(1).bestGap(), 10);
+        Check.due("one letter", Given.plain(1).bestGap(), 10);
         // 90 + 8 (T - 2)
-        Check.due("nine letters", plain(9).bestGap(), 3);
-        Check.due("ten letters", plain(10).bestGap(), 2);
+        Check.due("nine letters", Given.plain(9).bestGap(), 3);
+        Check.due("ten letters", Given.plain(10).bestGap(), 2);
         // 110 - 10
-        Check.due("eleven letters", plain(11).bestGap(), 1);
+        Check.due("eleven letters", Given.plain(11).bestGap(), 1);
         // 120 - 11; for T 0 the distance is -9
-        Check.due("twelve letters", plain(12).bestGap(), 0);
-        BoardLetters x = plain(12);
+        Check.due("twelve letters", Given.plain(12).bestGap(), 0);
+        BoardLetters x = Given.plain(12);
         x.setNumber(0, 20);
         Check.due("none", x.bestGap(), -2);
-        x = plain(5, 4);
+        x = Given.plain(5, 4);
         x.setNumber(1, 6);
         Check.due("in one row", x.bestGap(), 2);
         x.setNumber(1, 14);
@@ -119,7 +102,7 @@ final class FittingTests {
     }
 
     private static void bestGapBesideFill() {
-        BoardLetters x = plain(9);
+        BoardLetters x = Given.plain(9);
         x.setFill(true);
         x.setBreak(1);
         Check.due("for GAP also if FILL is on", x.bestGap(), 3);
@@ -129,7 +112,7 @@ final class FittingTests {
 
     /** Promise 39. */
     private static void leastInner() {
-        BoardLetters x = plain(4, 5, 1, 9);
+        BoardLetters x = Given.plain(4, 5, 1, 9);
         Check.due("one row", x.leastInner(1), 220);
         // 100 and 110
         Check.due("two rows", x.leastInner(2), 110);
@@ -147,7 +130,7 @@ final class FittingTests {
         Check.due("-1 rows", x.leastInner(-1), -1);
         Check.due("no words", new BoardLetters().leastInner(1), -2);
         Check.due("invalid without words", new BoardLetters().leastInner(0), -1);
-        Check.due("too many for 12 rows of now", thirteenRows().leastInner(12), 190);
+        Check.due("too many for 12 rows of now", Given.thirteenRows().leastInner(12), 190);
         BoardLetters y = Check.loaded("board 10 30 lead 2 cap 10 gap 0 word 5 size 1;letter i wide 1 left 1 1 1 1 1 1 right 1 1 1 1 1 1;");
         Check.say(y, "i");
         Check.due("10 at least", y.leastInner(1), 10);
@@ -164,30 +147,30 @@ final class FittingTests {
     /** Promise 40. */
     private static void height() {
         Check.due("no words", new BoardLetters().height(), 0);
-        Check.due("no rows", thirteenRows().height(), 0);
-        BoardLetters x = plain(9, 9, 9);
+        Check.due("no rows", Given.thirteenRows().height(), 0);
+        BoardLetters x = Given.plain(9, 9, 9);
         Check.due("three rows", x.height(), 22);
         x.setNumber(2, 0);
         Check.due("without LEAD", x.height(), 18);
         x.setNumber(2, 99);
         x.setNumber(5, 9);
         Check.due("LEAD is not times SIZE", x.height(), 3 * 54 + 198);
-        Check.due("one row", plain(1).height(), 6);
+        Check.due("one row", Given.plain(1).height(), 6);
     }
 
     /** Promise 41. */
     private static void cost() {
         Check.due("no words", new BoardLetters().cost(), -2);
-        Check.due("no rows", thirteenRows().cost(), -2);
-        Check.due("one row", plain(1).cost(), 0);
-        BoardLetters x = plain(4, 5, 1, 9);
+        Check.due("no rows", Given.thirteenRows().cost(), -2);
+        Check.due("one row", Given.plain(1).cost(), 0);
+        BoardLetters x = Given.plain(4, 5, 1, 9);
         Check.due("0 and 90 * 90", x.cost(), 8100);
         x.setFill(true);
         Check.due("by the widths for GAP", x.cost(), 8100);
         x.setBreak(1);
         Check.due("60 * 60 and 30 * 30", x.cost(), 4500);
-        Check.due("a wider row costs nothing", plain(9, 12, 9, 1).cost(), 100 + 0 + 100);
-        BoardLetters y = plain(1, 1, 1, 1, 1, 1, 1, 1, 1, 1, 1, 1);
+        Check.due("a wider row costs nothing", Given.plain(9, 12, 9, 1).cost(), 100 + 0 + 100);
+        BoardLetters y = Given.plain(1, 1, 1, 1, 1, 1, 1, 1, 1, 1, 1, 1);
         y.setNumber(0, 10);
         Check.due("no lack", y.cost(), 0);
         y.setNumber(0, 29);
@@ -203,22 +186,22 @@ final class FittingTests {
     /** Promise 42. */
     private static void leastCost() {
         Check.due("no words", new BoardLetters().leastCost(), -2);
-        Check.due("no way", thirteenRows().leastCost(), -2);
-        BoardLetters x = plain(4, 5, 1, 9);
+        Check.due("no way", Given.thirteenRows().leastCost(), -2);
+        BoardLetters x = Given.plain(4, 5, 1, 9);
         Check.due("by BREAK 0 too", x.leastCost(), 4500);
         Check.due("cost stays", x.cost(), 8100);
         Check.due("rows stay", x.row(0, 1), 2);
         x.setBreak(1);
         x.setFill(true);
         Check.due("by BREAK 1", x.leastCost(), 4500);
-        Check.due("one row", plain(3, 3).leastCost(), 0);
-        Check.due("twelve rows", plain(12, 12, 12, 12, 12, 2, 1, 8, 6, 3, 1, 7, 1, 1, 8, 1).leastCost(), 8200);
-        Check.due("at most twelve", plain(12, 12, 12, 12, 12, 12, 2, 1, 8, 6, 3, 1, 7, 1, 1, 8, 1).leastCost(), 9000);
+        Check.due("one row", Given.plain(3, 3).leastCost(), 0);
+        Check.due("twelve rows", Given.plain(12, 12, 12, 12, 12, 2, 1, 8, 6, 3, 1, 7, 1, 1, 8, 1).leastCost(), 8200);
+        Check.due("at most twelve", Given.plain(12, 12, 12, 12, 12, 12, 2, 1, 8, 6, 3, 1, 7, 1, 1, 8, 1).leastCost(), 9000);
     }
 
     /** Promise 43. */
     private static void fillGap() {
-        BoardLetters x = plain(3, 3, 3, 5, 11);
+        BoardLetters x = Given.plain(3, 3, 3, 5, 11);
         int[] due = {9, 3, 2};
         for (int row = 0; row < 3; row++) {
             Check.due("off, row " + row, x.fillGap(row), due[row]);
@@ -232,10 +215,10 @@ final class FittingTests {
         Check.due("row 3", x.fillGap(3), -1);
         Check.due("row -1", x.fillGap(-1), -1);
         Check.due("no words", new BoardLetters().fillGap(0), -1);
-        Check.due("no rows", thirteenRows().fillGap(0), -1);
-        Check.due("CAP", plain(1).fillGap(0), 10);
+        Check.due("no rows", Given.thirteenRows().fillGap(0), -1);
+        Check.due("CAP", Given.plain(1).fillGap(0), 10);
         // 20 + T - 2
-        BoardLetters y = plain(2);
+        BoardLetters y = Given.plain(2);
         y.setNumber(0, 27);
         Check.due("as wide as INNER", y.fillGap(0), 9);
     }
@@ -243,10 +226,10 @@ final class FittingTests {
     /** Promise 44. */
     private static void bestSwap() {
         Check.due("no words", new BoardLetters().bestSwap(), -2);
-        Check.due("no rows", thirteenRows().bestSwap(), -2);
-        Check.due("one row", plain(3, 3).bestSwap(), -2);
+        Check.due("no rows", Given.thirteenRows().bestSwap(), -2);
+        Check.due("one row", Given.plain(3, 3).bestSwap(), -2);
         // 40, 90 and 50 each alone; 40 and 50 go together, ahead of 90 with a cost of 0
-        BoardLetters x = plain(4, 9, 5);
+        BoardLetters x = Given.plain(4, 9, 5);
         Check.due("cost now", x.cost(), 3700);
         Check.due("the least cost", x.bestSwap(), 102);
         Check.due("words stay", x.word(0, 0) * 100 + x.word(1, 0) * 10 + x.word(2, 0), 495);
@@ -254,52 +237,46 @@ final class FittingTests {
         Check.due("cost then", x.cost(), 0);
         Check.due("nothing helps", x.bestSwap(), -2);
         // 90 first or last: 100 both
-        x = plain(4, 9, 4);
+        x = Given.plain(4, 9, 4);
         Check.due("cost of three rows", x.cost(), 3700);
         Check.due("of several the smallest", x.bestSwap(), 1);
         x.swap(0, 1);
         Check.due("cost of two", x.cost(), 100);
         Check.due("not less than now", x.bestSwap(), -2);
-        Check.due("words of the same width", plain(9, 9, 9).bestSwap(), -2);
+        Check.due("words of the same width", Given.plain(9, 9, 9).bestSwap(), -2);
     }
 
     private static void bestSwapBesideOthers() {
-        BoardLetters x = plain(4, 9, 5);
+        BoardLetters x = Given.plain(4, 9, 5);
         x.setBreak(1);
         x.setFill(true);
         // 40 + 10 + 50 and 90: the exchange of the last two makes 0
         Check.due("by BREAK 1", x.bestSwap(), 102);
         // twelve rows now; exchanges that make thirteen do not count
-        BoardLetters y = plain(9, 9, 9, 9, 9, 9, 9, 9, 9, 9, 9, 5, 4);
+        BoardLetters y = Given.plain(9, 9, 9, 9, 9, 9, 9, 9, 9, 9, 9, 5, 4);
         Check.due("twelve rows", y.value(12), 12);
         Check.due("cost", y.cost(), 1100);
         // 50 or 40 apart from the other one make thirteen rows, but 90 behind both makes the cost 1000
         Check.due("exchanges without rows do not count", y.bestSwap(), 1012);
-        BoardLetters z = plain(9, 1, 9, 9, 9, 2);
+        BoardLetters z = Given.plain(9, 1, 9, 9, 9, 2);
         Check.due("rows", z.value(12), 6);
         Check.due("cost of six", z.cost(), 100 + 8100 + 100 + 100 + 100);
         int[][] texts = {{9, 1, 9, 9, 9, 2}, {4, 5, 1, 9}, {2, 1, 8, 6, 3, 1, 7, 1, 1, 8, 1}, {3, 8, 2, 5, 4, 12, 6, 1}};
         for (int[] text : texts) {
             for (int how = 0; how < 2; how++) {
-                Check.due("the least of all by BREAK " + how, broken(how, text).bestSwap(), dueOf(how, text));
+                Check.due("the least of all by BREAK " + how, Given.broken(how, text).bestSwap(), dueOf(how, text));
             }
         }
-    }
-
-    private static BoardLetters broken(int how, int... lengths) {
-        BoardLetters x = plain(lengths);
-        x.setBreak(how);
-        return x;
     }
 
     /** The least cost among all exchanges, each made by swap() on a new object. */
     private static int dueOf(int how, int... lengths) {
         int words = lengths.length;
-        int least = broken(how, lengths).cost();
+        int least = Given.broken(how, lengths).cost();
         int best = -2;
         for (int i = 0; i < words; i++) {
             for (int j = i + 1; j < words; j++) {
-                BoardLetters y = broken(how, lengths);
+                BoardLetters y = Given.broken(how, lengths);
                 y.swap(i, j);
                 if (y.value(12) > 0 && y.cost() < least) {
                     least = y.cost();
@@ -337,7 +314,7 @@ final class FittingTests {
 
     /** Promise 46. */
     private static void full() {
-        BoardLetters x = plain(3, 3, 11);
+        BoardLetters x = Given.plain(3, 3, 11);
         Check.dueReal("70 of 100", x.full(0), 70f / 100f);
         Check.dueReal("wider", x.full(1), 110f / 100f);
         Check.dueReal("row 2", x.full(2), -1f);
@@ -348,15 +325,15 @@ final class FittingTests {
         x.setNumber(0, 77);
         Check.dueReal("as floats", x.full(0), 70f / 77f);
         Check.dueReal("no words", new BoardLetters().full(0), -1f);
-        Check.dueReal("no rows", thirteenRows().full(0), -1f);
+        Check.dueReal("no rows", Given.thirteenRows().full(0), -1f);
     }
 
     /** Promise 47. */
     private static void meanGap() {
         Check.dueReal("no words", new BoardLetters().meanGap(), 0);
-        Check.dueReal("no rows", thirteenRows().meanGap(), 0);
-        Check.dueReal("no gaps", plain(1, 1).meanGap(), 0);
-        BoardLetters x = plain(2, 3, 9);
+        Check.dueReal("no rows", Given.thirteenRows().meanGap(), 0);
+        Check.dueReal("no gaps", Given.plain(1, 1).meanGap(), 0);
+        BoardLetters x = Given.plain(2, 3, 9);
         Check.dueReal("all of 2", x.meanGap(), 2);
         x.setFill(true);
         // 20 and 30 grow to 9 (70 + 3 * 7), 90 to 3

@@ -159,6 +159,12 @@ final class OperationEdgeTests {
         Check.due("letters of the first one", x.spelled(0, 2), -2);
         Check.dueTruth("and back", x.swap(0, 29) > 0, true);
         Check.due("first again", x.word(0, 0), 12);
+        BoardLetters y = Check.loaded(Given.board(9999, 100, 2, 10, 2, 10, 1) + Given.even('a', 10, 1, 1) + Given.even('b', 10, 1, 1));
+        Check.say(y, "ab bbbbbbbbbbbb a b aa ba");
+        y.swap(5, 1);
+        y.swap(0, 2);
+        Check.dueText("words", Check.view(y).substring(5), "a ba ab b aa bbbbbbbbbbbb 2\n");
+        Check.due("letters b", y.letter(1, 4), 1 + 1 + 1 + 12);
     }
 
     /** Promise 11: "or the same word". */

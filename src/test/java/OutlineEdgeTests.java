@@ -82,6 +82,9 @@ final class OutlineEdgeTests {
         }
         BoardLetters x = new BoardLetters();
         Check.due("26 letters", Check.load(x, all.toString()), 26);
+        BoardLetters y = new BoardLetters();
+        Check.due("a 27th letter", Check.load(y, all + "letter m wide"), -1);
+        Check.due("is one that is told already", y.errorPosition(), all.length() + "letter ".length());
         for (int letter = 0; letter < 26; letter++) {
             Check.due("WIDE of letter " + letter, x.letter(letter, 0), letter + 1);
         }
@@ -308,6 +311,9 @@ final class OutlineEdgeTests {
         Check.due("nowhere", x.letter(B, 4), 0);
         Check.say(x, "baaaaaaaaaaa aaaaaaaaaaab");
         Check.due("first and last of all", x.letter(B, 4), 2);
+        Check.say(x, "a a ".repeat(14) + "a b");
+        Check.due("in the last word alone", x.letter(B, 4), 1);
+        Check.due("in all others", x.letter(A, 4), 29);
         Check.say(x, "a");
         Check.due("nothing is left of longer words", x.letter(A, 4) * 10 + x.letter(B, 4), 10);
     }

@@ -192,19 +192,14 @@ final class ReadingTests {
         Check.due("no error then", x.errorPosition(), -2);
     }
 
-    private static String board(int inner, int high, int lead, int cap, int gap, int word, int size) {
-        return "board " + inner + " " + high + " lead " + lead + " cap " + cap + " gap " + gap
-                + " word " + word + " size " + size + ";";
-    }
-
     /** Section 4: the ranges of the board's INTs hold their ends. */
     private static void numbersInRange() {
-        BoardLetters x = Check.loaded(board(10, 1, 0, 1, 0, 0, 1) + A);
+        BoardLetters x = Check.loaded(Given.board(10, 1, 0, 1, 0, 0, 1) + A);
         int[] least = {10, 1, 0, 0, 0, 1, 1};
         for (int what = 0; what < 7; what++) {
             Check.due("least value " + what, x.value(what), least[what]);
         }
-        x = Check.loaded(board(9999, 9999, 99, 30, 30, 99, 9) + A);
+        x = Check.loaded(Given.board(9999, 9999, 99, 30, 30, 99, 9) + A);
         int[] most = {9999, 9999, 99, 30, 99, 9, 30};
         for (int what = 0; what < 7; what++) {
             Check.due("greatest value " + what, x.value(what), most[what]);
@@ -213,16 +208,16 @@ final class ReadingTests {
 
     /** Promise 5 and section 4: an INT out of its range cannot stand. */
     private static void numbersOutOfRange() {
-        stops(board(9, 1, 0, 1, 0, 0, 1) + A, 6);
-        stops(board(10, 0, 0, 1, 0, 0, 1) + A, 9);
-        stops(board(10, 1, 100, 1, 0, 0, 1) + A, 16);
-        stops(board(10, 1, 0, 0, 0, 0, 1) + A, 22);
-        stops(board(10, 1, 0, 31, 0, 0, 1) + A, 22);
-        stops(board(10, 1, 0, 1, 2, 0, 1) + A, 28);
-        stops(board(10, 1, 0, 30, 31, 0, 1) + A, 29);
-        stops(board(10, 1, 0, 1, 0, 100, 1) + A, 35);
-        stops(board(10, 1, 0, 1, 0, 0, 0) + A, 42);
-        stops(board(10, 1, 0, 1, 0, 0, 10) + A, 42);
+        stops(Given.board(9, 1, 0, 1, 0, 0, 1) + A, 6);
+        stops(Given.board(10, 0, 0, 1, 0, 0, 1) + A, 9);
+        stops(Given.board(10, 1, 100, 1, 0, 0, 1) + A, 16);
+        stops(Given.board(10, 1, 0, 0, 0, 0, 1) + A, 22);
+        stops(Given.board(10, 1, 0, 31, 0, 0, 1) + A, 22);
+        stops(Given.board(10, 1, 0, 1, 2, 0, 1) + A, 28);
+        stops(Given.board(10, 1, 0, 30, 31, 0, 1) + A, 29);
+        stops(Given.board(10, 1, 0, 1, 0, 100, 1) + A, 35);
+        stops(Given.board(10, 1, 0, 1, 0, 0, 0) + A, 42);
+        stops(Given.board(10, 1, 0, 1, 0, 0, 10) + A, 42);
         stops("board 10000 1", 6);
         stops("board 10 10000", 9);
     }

@@ -4,6 +4,7 @@ final class RowEdgeTests {
 
     public static void main(String[] args) {
         wordIsOneWideAtLeast();
+        wordOfDifferentLetters();
         wordOfOneLetter();
         spacesStandBetweenWordsAlone();
         rowAsWideAsInner();
@@ -15,6 +16,7 @@ final class RowEdgeTests {
         laterRowsHaveTheMostWords();
         twelveRowsAndThirteen();
         twelveRowsAtHigherCost();
+        rowsOfOneTextAfterAnother();
         whatIsAnsweredWithoutRows();
         whatIsAnsweredWithoutWords();
         unfilledRows();
@@ -23,6 +25,7 @@ final class RowEdgeTests {
         gapIsNotLessThanGap();
         theLastRowIsFilledToo();
         whatIsLeftOverGoesToTheFirstSpaces();
+        whatIsLeftOverInALaterRow();
         lackLessThanTheSpaces();
         oneWordHasNoSpaceToGrow();
         widerRowIsNotFilled();
@@ -72,9 +75,33 @@ final class RowEdgeTests {
         x.setNumber(Given.SIZE, 1);
         Check.due("width of all", x.row(0, 4), 3 + 2 + 1 + 1 + 1 + 1 + 5 * 8);
         Check.due("place behind a word of 1", x.place(0, 8) - x.place(0, 6), 1 + 8);
-        Check.say(x, "dd dd");
-        x.setFill(true);
-        Check.due("the greatest gap that is not wider", x.row(0, 3), 10);
+        for (int cap : new int[] {1, 10}) {
+            BoardLetters y = Check.loaded(Given.board(100, 100, 2, cap, 0, 8, 1) + Given.even('i', 1, 9, 9));
+            Check.say(y, "iiiiiiiiiiii");
+            for (int gap = 0; gap <= cap; gap++) {
+                y.setNumber(Given.GAP, gap);
+                Check.due("GAP " + gap + " of CAP " + cap, y.word(0, 1), 1);
+            }
+        }
+    }
+
+    /** Section 1: a pair has its own distance, which its letters have in this order alone. */
+    private static void wordOfDifferentLetters() {
+        BoardLetters x = Check.loaded(Given.board(100, 100, 2, 10, 3, 8, 1) + Given.even('a', 10, 0, 1) + Given.even('b', 20, 2, 4)
+                + "pair a a wider 9;pair b b closer 9;pair b a wider 2;");
+        Check.say(x, "ab ba aba a b");
+        int[] due = {10 + 0 + 20, 20 - 1 + 2 + 10, 10 + 0 + 20 + 1 + 10, 10, 20};
+        for (int word = 0; word < due.length; word++) {
+            Check.due("word " + word, x.word(word, 1), due[word]);
+        }
+        for (int word = 0; word < 2; word++) {
+            for (int k = 0; k < 2; k++) {
+                Check.due("letter " + k + " of word " + word, x.spelled(word, k), (word + k) % 2);
+            }
+        }
+        Check.due("letters of word 2", x.spelled(2, 0) * 100 + x.spelled(2, 1) * 10 + x.spelled(2, 2), 10);
+        Check.due("letter of word 3", x.spelled(3, 0), 0);
+        Check.due("letter of word 4", x.spelled(4, 0), 1);
     }
 
     /** Section 2: one letter has no distances. */
@@ -225,6 +252,24 @@ final class RowEdgeTests {
         x = Given.broken(1, java.util.Arrays.copyOfRange(few, 1, few.length));
         dueRows("five words alone and seven rows", x, "1 1 1 1 1 2 1 1 2 2 2 1");
         Check.due("its cost", x.cost(), 8200);
+    }
+
+    /** The same sentences on one object, whose texts become shorter and longer. */
+    private static void rowsOfOneTextAfterAnother() {
+        for (int how = 0; how < 2; how++) {
+            BoardLetters x = Given.broken(how);
+            int[] counts = {12, 13, 1, 30, 2, 13, 14, 11, 13, 12, 3, 13, 1};
+            for (int count : counts) {
+                Check.say(x, Given.words(Given.same(count, 9)));
+                Check.due("rows of " + count, x.value(12), count > 12 ? 0 : count);
+                Check.due("cost of " + count, x.cost(), count > 12 ? -2 : 100 * (count - 1));
+                Check.due("least cost of " + count, x.leastCost(), count > 12 ? -2 : 100 * (count - 1));
+            }
+            Check.say(x, Given.words(4, 4, 4, 9));
+            dueRows("four words", x, "2 1 1");
+            Check.say(x, Given.words(4, 5, 1, 9));
+            dueRows("four other words", x, how == 0 ? "2 1 1" : "1 2 1");
+        }
     }
 
     /** Each promise's own words for a text that has no rows. */
@@ -379,6 +424,25 @@ final class RowEdgeTests {
         }
     }
 
+    /** Section 3: in each row from its own first space on, and not behind FILL. */
+    private static void whatIsLeftOverInALaterRow() {
+        BoardLetters x = Given.filled(10, 1, 1, 1, 1);
+        x.setNumber(Given.WORD, 11);
+        // 73 and a lack of 27, then of 29
+        dueRow(x, 1, 1, 4, 4, 10, 100, 0, 0, 20, 20);
+        x.setNumber(Given.INNER, 102);
+        dueRow(x, 1, 1, 4, 4, 10, 102, 0, 0, 20, 21);
+        int[] due = {1000, 1031, 1062, 1092};
+        for (int i = 0; i < 4; i++) {
+            Check.due("place " + i, x.place(1, i), due[i]);
+        }
+        x.setFill(false);
+        dueRow(x, 1, 1, 4, 4, 2, 73, 14, 29, 11, 11);
+        for (int i = 0; i < 4; i++) {
+            Check.due("place " + i + " without FILL", x.place(1, i), 1014 + 21 * i);
+        }
+    }
+
     /** Section 3: "divided by their number, cut", which may be 0. */
     private static void lackLessThanTheSpaces() {
         BoardLetters x = Given.filled(Given.same(30, 1));
@@ -496,6 +560,8 @@ final class RowEdgeTests {
         Check.due("all alike", Given.plain(2, 2, 2).longest(), 0);
         Check.due("last", Given.plain(1, 1, 2).longest(), 2);
         Check.due("one", Given.plain(1).longest(), 0);
+        // 50 and 40 fill a row for gap 2, and 40 alone would be 64 for CAP
+        Check.due("for GAP also if FILL is on", Given.filled(5, 4, 4).longest(), 0);
         // the width counts, not the number of letters
         BoardLetters x = Check.loaded(BOARD + Given.even('a', 60, 9, 9) + Given.even('d', 4, 1, 1));
         Check.say(x, "dddddddddddd dd a");
@@ -505,8 +571,7 @@ final class RowEdgeTests {
         Check.say(x, "dd dddddddddddd");
         Check.due("1 at least for both", x.longest(), 0);
         x.setNumber(Given.SIZE, 9);
-        x.setFill(true);
-        Check.due("for GAP", x.longest(), 0);
+        Check.due("whatever SIZE is", x.longest(), 0);
     }
 
     // ---- rows
@@ -617,6 +682,14 @@ final class RowEdgeTests {
         Check.due("one band, 9 - 9", x.touches(0), 1);
         x.correct(1, 1, 1);
         Check.due("one band, 9 - 8", x.touches(0), 0);
+        for (int band = 0; band < 6; band++) {
+            // 9 and 9 in five bands, which -9 leaves 9 apart, and 9 and 0 in the other one
+            BoardLetters y = Check.loaded(BOARD + Given.letter('a', 5, Given.side(band, "0", "9"), Given.side(9)));
+            Check.say(y, "aaa a");
+            Check.due("0 in band " + band, y.touches(0), 2);
+            y.correct(0, 0, 1);
+            Check.due("1 in band " + band, y.touches(0), 0);
+        }
     }
 
     /** Promise 34: "of several the first one". */

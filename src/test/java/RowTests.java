@@ -30,15 +30,6 @@ final class RowTests {
         Check.finish("RowTests");
     }
 
-    /** INNER 100, and with GAP 2 a word of n letters a is 10 n wide and words are 10 apart. */
-    private static BoardLetters plain(String text) {
-        BoardLetters x = new BoardLetters();
-        x.setNumber(3, 2);
-        x.setNumber(4, 10);
-        Check.say(x, text);
-        return x;
-    }
-
     private static void dueRow(BoardLetters x, int row, int... due) {
         for (int what = 0; what < due.length; what++) {
             Check.due("row " + row + ", " + what, x.row(row, what), due[what]);
@@ -56,17 +47,9 @@ final class RowTests {
         }
     }
 
-    private static String words(int... lengths) {
-        StringBuilder text = new StringBuilder();
-        for (int length : lengths) {
-            text.append("a".repeat(length)).append(' ');
-        }
-        return text.toString();
-    }
-
     /** Promise 27. */
     private static void row() {
-        BoardLetters x = plain(words(3, 2, 1, 5, 1));
+        BoardLetters x = Given.plain(3, 2, 1, 5, 1);
         dueRow(x, 0, 0, 3, 6, 2, 80, 10, 20, 10, 10);
         dueRow(x, 1, 3, 2, 6, 2, 70, 15, 30, 10, 10);
         Check.due("row 2", x.row(2, 0), -1);
@@ -78,14 +61,14 @@ final class RowTests {
         dueRow(x, 1, 1, 2, 3, 2, 80, 10, 20, 20, 20);
         dueRow(x, 2, 3, 1, 5, 2, 100, 0, 0, -2, -2);
         Check.due("no words", new BoardLetters().row(0, 0), -1);
-        Check.due("no rows", plain("aaaaaaaaa ".repeat(13)).row(0, 0), -1);
-        x = plain(words(3));
+        Check.due("no rows", Given.thirteenRows().row(0, 0), -1);
+        x = Given.plain(3);
         x.setNumber(0, 37);
         Check.due("half of 7, cut", x.row(0, 5), 3);
     }
 
     private static void rowAtInner() {
-        BoardLetters x = plain(words(5, 4));
+        BoardLetters x = Given.plain(5, 4);
         dueWords(x, 2);
         dueRow(x, 0, 0, 2, 9, 2, 100, 0, 0, 10, 10);
         x.setNumber(0, 99);
@@ -93,7 +76,7 @@ final class RowTests {
     }
 
     private static void rowWiderThanInner() {
-        BoardLetters x = plain(words(12, 12, 1));
+        BoardLetters x = Given.plain(12, 12, 1);
         dueWords(x, 1, 1, 1);
         dueRow(x, 0, 0, 1, 12, 2, 120, 0, 0, -2, -2);
         x.setFill(true);
@@ -104,7 +87,7 @@ final class RowTests {
 
     /** Section 3: the gap grows first, then the spaces; the last row, too. */
     private static void rowFilled() {
-        BoardLetters x = plain(words(3, 3, 3, 5));
+        BoardLetters x = Given.plain(3, 3, 3, 5);
         x.setFill(true);
         // 70 for gap 2 and 4 more for each more: 98 for 9
         dueRow(x, 0, 0, 2, 6, 9, 100, 0, 0, 12, 12);
@@ -112,7 +95,7 @@ final class RowTests {
         dueRow(x, 1, 2, 2, 8, 3, 100, 0, 0, 14, 14);
         x.setFill(false);
         dueRow(x, 0, 0, 2, 6, 2, 70, 15, 30, 10, 10);
-        x = plain(words(2, 2, 2));
+        x = Given.plain(2, 2, 2);
         x.setFill(true);
         // 80 and 3 more for each more: 98 for 8
         dueRow(x, 0, 0, 3, 6, 8, 100, 0, 0, 11, 11);
@@ -130,7 +113,7 @@ final class RowTests {
     }
 
     private static void rowFilledByGapsAlone() {
-        BoardLetters x = plain(words(1, 1, 1, 1));
+        BoardLetters x = Given.plain(1, 1, 1, 1);
         x.setFill(true);
         x.setNumber(0, 102);
         // no gaps to grow: GAP is CAP, and 32 for three spaces
@@ -138,14 +121,14 @@ final class RowTests {
         Check.due("second place", x.place(0, 1), 1000 + 10 + 21);
         Check.due("third place", x.place(0, 2), 1000 + 20 + 42);
         Check.due("fourth place", x.place(0, 3), 1000 + 30 + 62);
-        x = plain(words(10, 2, 2, 1, 12));
+        x = Given.plain(10, 2, 2, 1, 12);
         x.setFill(true);
         x.setNumber(0, 105);
         // 70 and 2 more for each more: 86 for CAP, and 19 for two spaces
         dueRow(x, 1, 1, 3, 5, 10, 105, 0, 0, 19, 20);
         Check.due("second of row 1", x.place(1, 2), 1000 + 28 + 20);
         Check.due("third of row 1", x.place(1, 4), 1000 + 28 + 20 + 28 + 19);
-        x = plain(words(3));
+        x = Given.plain(3);
         x.setFill(true);
         // one word alone: CAP, and what it lacks stays
         dueRow(x, 0, 0, 1, 3, 10, 46, 27, 54, -2, -2);
@@ -155,10 +138,10 @@ final class RowTests {
 
     /** Section 2, BREAK 0. */
     private static void wordsInEarlyRows() {
-        dueWords(plain(words(4, 5, 1, 9)), 2, 1, 1);
-        dueWords(plain(words(1, 1, 1, 1, 1, 1)), 5, 1);
-        dueWords(plain(""));
-        BoardLetters x = plain(words(4, 5, 1));
+        dueWords(Given.plain(4, 5, 1, 9), 2, 1, 1);
+        dueWords(Given.plain(1, 1, 1, 1, 1, 1), 5, 1);
+        dueWords(Given.plain());
+        BoardLetters x = Given.plain(4, 5, 1);
         x.setFill(true);
         dueWords(x, 2, 1);
         x.setNumber(4, 0);
@@ -167,86 +150,86 @@ final class RowTests {
 
     /** Section 2, BREAK 1: the sum of squares of all rows but the last one. */
     private static void wordsInCheapRows() {
-        BoardLetters x = plain(words(4, 5, 1, 9));
+        BoardLetters x = Given.plain(4, 5, 1, 9);
         x.setBreak(1);
         // 60 * 60 + 30 * 30 is less than 0 and 90 * 90
         dueWords(x, 1, 2, 1);
         x.setBreak(0);
         dueWords(x, 2, 1, 1);
-        x = plain(words(1, 1, 1));
+        x = Given.plain(1, 1, 1);
         x.setBreak(1);
         dueWords(x, 3);
         // a row that is wider costs nothing
-        x = plain(words(5, 1, 12, 1));
+        x = Given.plain(5, 1, 12, 1);
         x.setBreak(1);
         dueWords(x, 2, 1, 1);
-        x = plain("");
+        x = Given.plain();
         x.setBreak(1);
         dueWords(x);
     }
 
     private static void waysOfTheSameCost() {
         // 90 and 40 or 40 and 90: 10 * 10 + 60 * 60 both
-        BoardLetters x = plain(words(4, 4, 4, 9));
+        BoardLetters x = Given.plain(4, 4, 4, 9);
         x.setBreak(1);
         dueWords(x, 2, 1, 1);
         // the first word costs nothing; then the same two ways
-        x = plain(words(11, 4, 4, 4, 9));
+        x = Given.plain(11, 4, 4, 4, 9);
         x.setBreak(1);
         dueWords(x, 1, 2, 1, 1);
     }
 
     private static void atMostTwelveRows() {
-        BoardLetters x = plain(words(9, 9, 9, 9, 9, 9, 9, 9, 9, 9, 9, 9));
+        BoardLetters x = Given.plain(9, 9, 9, 9, 9, 9, 9, 9, 9, 9, 9, 9);
         dueWords(x, 1, 1, 1, 1, 1, 1, 1, 1, 1, 1, 1, 1);
         x.setBreak(1);
         dueWords(x, 1, 1, 1, 1, 1, 1, 1, 1, 1, 1, 1, 1);
-        x = plain(words(9, 9, 9, 9, 9, 9, 9, 9, 9, 9, 9, 9, 9));
+        x = Given.plain(9, 9, 9, 9, 9, 9, 9, 9, 9, 9, 9, 9, 9);
         dueWords(x);
         x.setBreak(1);
         dueWords(x);
         x.setNumber(0, 9999);
         dueWords(x, 13);
         // five words that cost nothing and seven rows for the others, which six rows hold too, but at more cost
-        x = plain(words(12, 12, 12, 12, 12, 2, 1, 8, 6, 3, 1, 7, 1, 1, 8, 1));
+        x = Given.plain(12, 12, 12, 12, 12, 2, 1, 8, 6, 3, 1, 7, 1, 1, 8, 1);
         x.setBreak(1);
         dueWords(x, 1, 1, 1, 1, 1, 2, 1, 1, 2, 2, 2, 1);
         // with one word more ahead only six rows are left for them
-        x = plain(words(12, 12, 12, 12, 12, 12, 2, 1, 8, 6, 3, 1, 7, 1, 1, 8, 1));
+        x = Given.plain(12, 12, 12, 12, 12, 12, 2, 1, 8, 6, 3, 1, 7, 1, 1, 8, 1);
         x.setBreak(1);
         dueWords(x, 1, 1, 1, 1, 1, 1, 2, 1, 2, 2, 2, 2);
     }
 
     private static void rowsAfterOtherTexts() {
-        BoardLetters x = plain(words(12, 12, 12, 12, 12, 12, 2, 1, 8, 6, 3, 1, 7, 1, 1, 8, 1));
+        BoardLetters x = Given.plain(12, 12, 12, 12, 12, 12, 2, 1, 8, 6, 3, 1, 7, 1, 1, 8, 1);
         x.setBreak(1);
         Check.due("twelve rows", x.value(12), 12);
-        Check.say(x, words(9, 9, 9, 9, 9, 9, 9, 9, 9, 9, 9, 5, 4, 9));
+        Check.say(x, Given.words(9, 9, 9, 9, 9, 9, 9, 9, 9, 9, 9, 5, 4, 9));
         dueWords(x);
         Check.due("no cost", x.cost(), -2);
         for (int count = 12; count > 0; count--) {
-            Check.say(x, words(9, 9, 9, 9, 9, 9, 9, 9, 9, 9, 9, 9).substring(0, 10 * count));
+            Check.say(x, Given.words(9, 9, 9, 9, 9, 9, 9, 9, 9, 9, 9, 9).substring(0, 10 * count));
             Check.due("rows", x.value(12), count);
             Check.due("cost", x.cost(), 100 * (count - 1));
             Check.due("least cost", x.leastCost(), 100 * (count - 1));
         }
         for (int count = 12; count > 0; count -= 3) {
-            Check.say(x, words(9, 9, 9, 9, 9, 9, 9, 9, 9, 9, 9, 9));
+            Check.say(x, Given.words(9, 9, 9, 9, 9, 9, 9, 9, 9, 9, 9, 9));
             Check.due("least cost of twelve", x.leastCost(), 1100);
-            Check.say(x, words(9, 9, 9, 9, 9, 9, 9, 9, 9, 9, 9, 9).substring(0, 10 * count));
+            Check.say(x, Given.words(9, 9, 9, 9, 9, 9, 9, 9, 9, 9, 9, 9).substring(0, 10 * count));
             Check.due("least cost of " + count, x.leastCost(), 100 * (count - 1));
         }
-        Check.say(x, words(4, 5, 1, 9));
+        Check.say(x, Given.words(4, 5, 1, 9));
         dueWords(x, 1, 2, 1);
         x.setNumber(0, 10);
         dueWords(x, 1, 1, 1, 1);
         Check.say(x, "");
         dueWords(x);
         // odd and even words behind twelve rows
-        Check.say(x, words(9, 9, 9, 9, 9, 9, 9, 9, 9, 9, 9, 9, 9, 9));
+        Check.say(x, Given.words(9, 9, 9, 9, 9, 9, 9, 9, 9, 9, 9, 9, 9, 9));
         dueWords(x);
         Check.due("no way", x.leastCost(), -2);
-        Check.say(x, words(9, 9, 9, 9, 9, 9, 9, 9, 9, 9, 9, 9, 9));
+        Check.say(x, Given.words(9, 9, 9, 9, 9, 9, 9, 9, 9, 9, 9, 9, 9));
         dueWords(x);
         Check.due("no way", x.leastCost(), -2);
     }
@@ -303,7 +286,7 @@ final class RowTests {
         dueBadRow(x, -1);
         dueBadRow(x, Integer.MAX_VALUE);
         dueBadRow(new BoardLetters(), 0);
-        dueBadRow(plain("aaaaaaaaa ".repeat(13)), 0);
+        dueBadRow(Given.thirteenRows(), 0);
     }
 
     /** Promise 29. */
@@ -442,19 +425,19 @@ final class RowTests {
         Check.due("emptiest", x.widest(false), 2);
         Check.due("fullest without rows", new BoardLetters().widest(true), -2);
         Check.due("emptiest without rows", new BoardLetters().widest(false), -2);
-        x = plain(words(1, 9, 9, 5, 1, 5, 1));
+        x = Given.plain(1, 9, 9, 5, 1, 5, 1);
         // 10 alone, 90, 90, 70, 70: of several the first one
         Check.due("fullest of several", x.widest(true), 1);
         Check.due("emptiest of all", x.widest(false), 0);
-        x = plain(words(9, 5, 1, 5, 1));
+        x = Given.plain(9, 5, 1, 5, 1);
         Check.due("emptiest of several", x.widest(false), 1);
-        x = plain(words(3, 1, 1, 1, 9));
+        x = Given.plain(3, 1, 1, 1, 9);
         x.setFill(true);
         // 30 + 3 * 10 and spaces fill 100; 90 grows to 98 alone
         Check.due("with its spaces as they are", x.widest(true), 0);
         Check.due("filled", x.row(0, 4), 100);
         Check.due("emptiest filled", x.widest(false), 1);
-        x = plain(words(12, 9, 1));
+        x = Given.plain(12, 9, 1);
         Check.due("wider than INNER", x.widest(true), 0);
     }
 

@@ -39,6 +39,7 @@ final class TextEdgeTests {
         theLastPairCounts();
         theFirstTokenThatCannotStand();
         loadLeavesBreakFillAndWords();
+        loadReplacesPairsAndLetters();
         bytesOfWords();
         twelveLettersAndThirteen();
         thirtyWordsAndThirtyOne();
@@ -496,16 +497,39 @@ final class TextEdgeTests {
     /** Section 4: "BREAK is 0, FILL is off, and there are no words then." */
     private static void loadLeavesBreakFillAndWords() {
         BoardLetters x = new BoardLetters();
-        Check.say(x, "a aa");
         x.setBreak(1);
         x.setFill(true);
+        Check.say(x, "a aa");
+        Check.due("rows ahead of it", x.value(12), 1);
         Check.due("load", Check.load(x, BOARD + A), 1);
         Check.due("BREAK", x.value(7), 0);
         Check.due("FILL", x.value(8), 0);
         Check.due("words", x.value(11), 0);
+        Check.due("rows", x.value(12), 0);
+        Check.due("view", x.viewLength(), 0);
+        Check.due("row 0", x.row(0, 0), -1);
         Check.due("letters in them", x.letter(0, 4), 0);
         Check.due("so already", x.setBreak(0), -2);
         Check.due("off already", x.setFill(false), -2);
+    }
+
+    /** Promise 4: "On success everything is replaced", whatever was told by calls and texts ahead of it. */
+    private static void loadReplacesPairsAndLetters() {
+        String t = Given.even('t', 6, 1, 1);
+        BoardLetters x = new BoardLetters();
+        x.correct(0, 0, 5);
+        Check.say(x, "a aa");
+        Check.due("pairs that were corrected", Check.load(x, BOARD + A + t), 2);
+        Check.due("pairs", x.value(10), 0);
+        Check.due("pairs that were told", Check.load(x, BOARD + A + t + "pair a a wider 1;pair a t wider 2;pair t t closer 3;"), 2);
+        Check.due("pairs", x.value(10), 3);
+        Check.due("pairs that a refused text told", Check.load(x, BOARD + A + t + "pair t a wider 4;?"), -1);
+        Check.due("pairs stay", x.value(10), 3);
+        Check.due("no pairs", Check.load(x, BOARD + A + t), 2);
+        Check.due("pairs", x.value(10), 0);
+        Check.due("distance", x.distance(0, 0, 3), 10);
+        Check.due("one letter", Check.load(x, BOARD + t), 1);
+        Check.due("a", x.letter(0, 0), -1);
     }
 
     // ---- texts for say()

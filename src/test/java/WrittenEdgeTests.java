@@ -4,6 +4,7 @@ final class WrittenEdgeTests {
 
     public static void main(String[] args) {
         viewOfOneByteMore();
+        bytesOfAChangedView();
         viewOfNothing();
         viewOfOneLetter();
         viewOfStartsAtTheirEnds();
@@ -47,6 +48,20 @@ final class WrittenEdgeTests {
         Check.due("first byte", x.viewByte(0), '3');
         Check.due("last byte", x.viewByte(9), 10);
         Check.due("behind it", x.viewByte(10), -2);
+    }
+
+    /** Promise 49: the view is that of the rows as they are now, whichever call asks first. */
+    private static void bytesOfAChangedView() {
+        BoardLetters x = Given.plain(2, 1);
+        Check.due("first byte", x.viewByte(0), '3');
+        x.setNumber(Given.INNER, 60);
+        Check.due("first byte of a start of 10", x.viewByte(0), '1');
+        x.setNumber(Given.INNER, 10);
+        Check.due("first byte of a start of 0", x.viewByte(0), '0');
+        x.say();
+        Check.due("first byte of nothing", x.viewByte(0), -2);
+        x.undo();
+        Check.due("first byte again", x.viewByte(0), '0');
     }
 
     private static void viewOfNothing() {
