@@ -5,6 +5,8 @@ import java.lang.reflect.Method;
 import java.lang.reflect.Modifier;
 import java.nio.file.Files;
 import java.nio.file.Path;
+import java.util.ArrayList;
+import java.util.List;
 import java.util.Set;
 import java.util.TreeSet;
 
@@ -27,9 +29,19 @@ final class FaceTests {
     public static void main(String[] args) throws IOException {
         face();
         classesInside();
+        parameters();
         source();
+        headings();
         Check.finish("FaceTests");
     }
+
+    /** What the interface says ahead of calls, and the first and the last one of these. */
+    private static final String[][] HEADINGS = {
+        {"texts that are read", "append", "errorPosition"}, {"operations", "say", "undo"},
+        {"letters and pairs", "value", "alike"}, {"words", "word", "longest"}, {"rows", "row", "at"},
+        {"fitting", "fits", "bestCorrection"}, {"rates", "full", "meanGap"},
+        {"texts that are written", "viewLength", "tapeLength"},
+    };
 
     private static void face() {
         Class<?> type = BoardLetters.class;
@@ -72,15 +84,42 @@ final class FaceTests {
     private static void classesInside() {
         Class<?>[] inside = BoardLetters.class.getDeclaredClasses();
         Check.dueTruth("at most twelve classes", inside.length < 12, true);
+        fields(BoardLetters.class);
         for (Class<?> c : inside) {
             Check.dueText(c.getName(), Modifier.toString(c.getModifiers()), "private static final");
-            int fields = 0;
-            for (Field f : c.getDeclaredFields()) {
-                boolean fixed = Modifier.isStatic(f.getModifiers());
-                Check.dueTruth(f + " is static and not final", fixed && !Modifier.isFinal(f.getModifiers()), false);
-                fields += fixed ? 0 : 1;
+            fields(c);
+        }
+    }
+
+    private static void fields(Class<?> c) {
+        int fields = 0;
+        for (Field f : c.getDeclaredFields()) {
+            boolean fixed = Modifier.isStatic(f.getModifiers());
+            Check.dueTruth(f + " is static and not final", fixed && !Modifier.isFinal(f.getModifiers()), false);
+            fields += fixed ? 0 : 1;
+        }
+        Check.dueTruth("at most twenty fields in " + c.getName(), fields <= 20, true);
+    }
+
+    private static void parameters() {
+        List<Class<?>> all = new ArrayList<>(List.of(BoardLetters.class.getDeclaredClasses()));
+        all.add(BoardLetters.class);
+        for (Class<?> c : all) {
+            for (Method m : c.getDeclaredMethods()) {
+                Check.dueTruth("at most seven parameters of " + m, m.getParameterCount() <= 7, true);
             }
-            Check.dueTruth("at most twenty fields in " + c.getName(), fields <= 20, true);
+        }
+    }
+
+    private static void headings() throws IOException {
+        String text = Files.readString(Path.of("src/main/java/BoardLetters.java"));
+        int behind = 0;
+        for (String[] heading : HEADINGS) {
+            int place = text.indexOf("    // ---- " + heading[0] + "\n", behind);
+            int first = text.indexOf(" " + heading[1] + "(", behind);
+            int last = text.indexOf(" " + heading[2] + "(", behind);
+            Check.dueTruth("heading of " + heading[1], behind <= place && place < first && first < last, true);
+            behind = last;
         }
     }
 
